@@ -246,8 +246,7 @@ public final class VillageRounds {
         for (int v = 1; v <= MOST_V; v++) {
             trial.chief.follow(REST, v);
             trial.begin();
-            trial.spendYears(n, true);
-            if (trial.hungers == 0 && !trial.hill.isMoreWornThan(now.hill)) {
+            if (trial.staysFed(n, true) && !trial.hill.isMoreWornThan(now.hill)) {
                 return v;
             }
         }
@@ -395,8 +394,7 @@ public final class VillageRounds {
         for (int mouths = MOST_MOUTHS; mouths >= 1; mouths--) {
             trial.begin();
             trial.hill.mouths = mouths;
-            trial.spendYears(n, false);
-            if (trial.hungers == 0) {
+            if (trial.staysFed(n, false)) {
                 return mouths;
             }
         }
@@ -804,19 +802,20 @@ public final class VillageRounds {
 
         private int sameBytes(String text) {
             for (int i = 0; i < text.length(); i++) {
-                if (at + i >= tape.size || tape.at(at + i) != text.charAt(i)) {
+                if (tape.at(at + i) != text.charAt(i)) {
                     return i;
                 }
             }
             return text.length();
         }
 
+        /** Behind its end a tape answers 0, which is no sign. */
         private boolean sees(char sign) {
-            return at < tape.size && tape.at(at) == sign;
+            return tape.at(at) == sign;
         }
 
         private boolean take(char sign) {
-            if (!sees(sign)) {
+            if (tape.at(at) != sign) {
                 return false;
             }
             at++;
@@ -825,7 +824,7 @@ public final class VillageRounds {
 
         /** Which sign of a text comes, and takes it; below 0: none of them comes. */
         private int takeOf(String signs) {
-            int which = at < tape.size ? signs.indexOf((char) tape.at(at)) : -1;
+            int which = signs.indexOf((char) tape.at(at));
             if (which >= 0) {
                 at++;
             }
@@ -838,60 +837,52 @@ public final class VillageRounds {
             return second < 0 ? first : first * 10 + second;
         }
 
+        /** An | joins only when all & behind it have. */
         private boolean readAny(int open) {
-            if (!readAll(open)) {
-                return false;
-            }
-            for (int i = 0; i < MOST_BYTES && take('|'); i++) {
-                if (!readAll(open)) {
-                    return false;
+            boolean orWaits = false;
+            boolean read = readOne(open);
+            for (int i = 0; i < MOST_BYTES && read && (sees('&') || sees('|')); i++) {
+                boolean isAnd = take('&');
+                if (!isAnd) {
+                    at++;
+                    if (orWaits) {
+                        land.putStep(OR);
+                    }
+                    orWaits = true;
                 }
+                read = readOne(open);
+                if (isAnd) {
+                    land.putStep(AND);
+                }
+            }
+            if (orWaits) {
                 land.putStep(OR);
             }
-            return true;
-        }
-
-        private boolean readAll(int open) {
-            if (!readOne(open)) {
-                return false;
-            }
-            for (int i = 0; i < MOST_BYTES && take('&'); i++) {
-                if (!readOne(open)) {
-                    return false;
-                }
-                land.putStep(AND);
-            }
-            return true;
-        }
-
-        private boolean readOne(int open) {
-            if (!sees('!') && !sees('(')) {
-                return readTest();
-            }
-            if (open >= MOST_OPEN) {
-                return false;
-            }
-            if (take('(')) {
-                return readAny(open + 1) && take(')');
-            }
-            at++;
-            boolean read = readOne(open + 1);
-            land.putStep(NOT);
             return read;
         }
 
-        private boolean readTest() {
+        private boolean readOne(int open) {
+            if (sees('!') || sees('(')) {
+                return open < MOST_OPEN && readOpen(open + 1);
+            }
             int letter = takeOf("cyswp");
-            if (letter < 0) {
+            int sign = letter < 0 ? -1 : takeOf("<=>");
+            int n = sign < 0 ? -1 : readNumber();
+            if (n < 0) {
                 return false;
             }
-            int sign = takeOf("<=>");
-            if (sign < 0) {
-                return false;
-            }
-            int n = readNumber();
             land.putStep(Land.testStep(letter, sign, n));
-            return n >= 0;
+            return true;
+        }
+
+        private boolean readOpen(int open) {
+            if (take('(')) {
+                return readAny(open) && take(')');
+            }
+            at++;
+            boolean read = readOne(open);
+            land.putStep(NOT);
+            return read;
         }
     }
 
@@ -1111,6 +1102,15 @@ public final class VillageRounds {
                 int to = chief.goal();
                 spend(chief.picks(to), to, grows);
             }
+        }
+
+        /** Spends no year behind the first hungry one. */
+        boolean staysFed(int n, boolean grows) {
+            for (int i = 0; i < n && hungers == 0; i++) {
+                int to = chief.goal();
+                spend(chief.picks(to), to, grows);
+            }
+            return hungers == 0;
         }
 
         /** In how many of ten skies the latest year was not hungry. */
