@@ -146,7 +146,7 @@ public final class RowsAndRounds {
         due("17 the round", x.ever(0, 1), 2);
         due("17 the least harvest", x.ever(0, 2), 25);
         due("17 asked changes nothing", x.count(3) + x.of(0, 2), 0);
-        VillageRounds y = hill("give 30 c<3;grow 50", 0, 0);
+        VillageRounds y = hill("give 30 c=1;walk 8;move 5;grow 99", 0, 0, 20, 20);
         y.rule(0, 1);
         y.set(1, 20);
         due("17 mouths never grow", y.ever(0, 2), 30);

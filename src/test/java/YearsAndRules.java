@@ -109,6 +109,8 @@ public final class YearsAndRules {
         due("11 till mouths", burns(x, 0, 21), 6);
         due("11 till mouths", burns(x, 0, 45), 7);
         due("11 all that give", burns(x, 0, 99), 15);
+        Check.land(x, "give 5 s=0;give 1 s=1");
+        due("11 one that gives 1", burns(x, 0, 6), 3);
         Check.land(x, "give 9 c=1;walk 8");
         due("11 none that gives 0", burns(x, 0, 99), 3);
         due("11 asked changes nothing", x.of(0, 2), 0);
@@ -186,10 +188,19 @@ public final class YearsAndRules {
         due("11 no such set", burns(x, 0, 56), 15);
         Check.land(x, "give 10 s<2;give 20 s=2;give 3 s=3");
         due("11 one, though two with lower bits do", burns(x, 0, 20), 4);
+        Check.land(x, "give 9 s<2");
+        due("11 all that give anything, and no other", burns(x, 0, 19), 3);
+        Check.land(x, "give 1 s>1");
+        due("11 all that give anything", burns(x, 0, 19), 12);
         Check.land(x, "give 9 s>1");
         due("11 all that give anything", burns(x, 0, 19), 12);
-        Check.land(x, "walk 1");
-        due("11 none give", burns(x, 0, 1), 0);
+        VillageRounds y = new VillageRounds();
+        y.plot(0, 0);
+        y.rule(4, 1);
+        Check.land(y, "give 9 c=1");
+        due("11 one plot", burns(y, 0, 9), 1);
+        Check.land(y, "walk 1");
+        due("11 none give", burns(y, 0, 1), 0);
     }
 
     private static void burnsStay() {
