@@ -1202,7 +1202,6 @@ public final class VillageRounds {
         private int number;
 
         int perform(int itsKind, int itsV, int itsNumber, int act, int x) {
-            ran = 0;
             kind = itsKind;
             v = itsV;
             number = itsNumber;

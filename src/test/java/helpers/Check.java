@@ -1,13 +1,50 @@
+import java.util.List;
+import java.util.function.Supplier;
+import java.util.function.ToLongFunction;
+
 /** Compares answers with what is due, and counts those that are not. */
 final class Check {
+    private String test = "";
     private int wrong;
     private int asked;
+
+    /** What is asked from here on is told under this name. */
+    void begin(String name) {
+        test = name + ": ";
+    }
+
+    int asked() {
+        return asked;
+    }
 
     void due(String call, long got, long want) {
         asked++;
         if (got != want) {
             wrong++;
-            System.out.println(call + " answered " + got + ", due is " + want);
+            System.out.println(test + call + " answered " + got + ", due is " + want);
+        }
+    }
+
+    void fail(String why) {
+        asked++;
+        wrong++;
+        System.out.println(test + why);
+    }
+
+    /**
+     * A call that answers what is due and changes nothing: a refused one, or one that only asks.
+     * Behind it the object must answer all as a like one that was not called.
+     */
+    void still(String told, Supplier<VillageRounds> made, ToLongFunction<VillageRounds> call, long want) {
+        VillageRounds called = made.get();
+        due(told, call.applyAsLong(called), want);
+        List<String> got = Whole.of(called);
+        List<String> due = Whole.of(made.get());
+        for (int i = 0; i < due.size(); i++) {
+            if (!due.get(i).equals(got.get(i))) {
+                fail(told + " changed " + due.get(i) + " to " + got.get(i));
+                return;
+            }
         }
     }
 
@@ -17,23 +54,5 @@ final class Check {
         if (wrong != 0 || asked == 0) {
             System.exit(1);
         }
-    }
-
-    /** Feeds a text, eight bytes a call. */
-    static void feed(VillageRounds x, String text) {
-        for (int i = 0; i < text.length(); i += 8) {
-            int n = Math.min(8, text.length() - i);
-            long w = 0;
-            for (int k = 0; k < n; k++) {
-                w = w << 8 | text.charAt(i + k);
-            }
-            x.feed(w, n);
-        }
-    }
-
-    /** Feeds a text and makes it a land. */
-    static int land(VillageRounds x, String text) {
-        feed(x, text);
-        return x.land();
     }
 }
