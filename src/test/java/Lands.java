@@ -154,8 +154,10 @@ public final class Lands {
             Make.land(x, "give 9 c=1|c=1|c=1|c=1|c=1;give 5 !c=1&!c=1&!c=1&c=1;walk 0;x");
             check.due("the one that held", x.gives(0), 7);
         }
-        Make.land(x, "give 3 c=2&c=1|c=1");
+        Make.land(x, "give 3 c=1;give 4 c=2");
         check.due("the newest", x.gives(0), 3);
+        Make.land(x, "give 3 c=2;give 4 c=1");
+        check.due("the newest", x.gives(0), 4);
     }
 
     static void promise06ByAFaultTheOneThatHeldHolds(Check check) {
@@ -331,6 +333,8 @@ public final class Lands {
         fault(check, "give 1 c==1", 9);
         fault(check, "give 1 c<=1", 9);
         fault(check, "wear 1", 5);
+        fault(check, "wear =1", 5);
+        fault(check, "give 1 <1", 7);
     }
 
     static void promise06AndOr(Check check) {
@@ -372,6 +376,8 @@ public final class Lands {
         sound(check, "wear !(!(!c=1))");
         sound(check, "wear ((((!c=1))))");
         sound(check, "wear !!!!(c=1|c=1)");
+        sound(check, "give 1 !!!!!c=1");
+        sound(check, "give 1 !(((!c=1)))");
     }
 
     static void promise06NoSixthOpen(Check check) {
@@ -381,6 +387,9 @@ public final class Lands {
         fault(check, "wear (((((!c=1)))))", 10);
         fault(check, "wear !!!!(!c=1)", 10);
         fault(check, "wear !!!(c=1|!!c=1)", 14);
+        fault(check, "give 1 !!!!!!c=1", 12);
+        fault(check, "give 1 ((((((c=1))))))", 12);
+        fault(check, "walk 1;give 10 !(((!(c=1))))", 20);
     }
 
     static void promise06ABracketIsOpenTillItsEnd(Check check) {
