@@ -958,12 +958,14 @@ public final class VillageRounds {
         }
 
         int picks(int village) {
+            int together = 0;
             for (int i = 0; i < MOST_PLOTS; i++) {
                 given[i] = gift(i, village, land.walk);
+                together += given[i];
             }
             switch (kind) {
                 case ROUND: return picksInTurn();
-                case BEST: return picksFewest();
+                case BEST: return together < hill.mouths ? picksAllThatGive() : picksFewest();
                 default: return picksByRank(village);
             }
         }
@@ -978,21 +980,27 @@ public final class VillageRounds {
             return set;
         }
 
+        private int picksAllThatGive() {
+            int set = 0;
+            for (int i = 0; i < MOST_PLOTS; i++) {
+                if (given[i] > 0) {
+                    set |= 1 << i;
+                }
+            }
+            return set;
+        }
+
         /** Sets come from the least bits on, so that of like ones the first is kept. */
         private int picksFewest() {
             int best = 0;
-            int giving = 0;
             for (int set = 1; set <= hill.all() && set < sums.length; set++) {
                 int last = Integer.numberOfTrailingZeros(set) % MOST_PLOTS;
                 sums[set] = sums[set & set - 1] + given[last];
                 if (sums[set] >= hill.mouths && (best == 0 || isBetter(set, best))) {
                     best = set;
                 }
-                if (set == 1 << last && given[last] > 0) {
-                    giving |= set;
-                }
             }
-            return best == 0 ? giving : best;
+            return best;
         }
 
         private boolean isBetter(int set, int other) {
