@@ -1171,8 +1171,9 @@ public final class VillageRounds {
         }
 
         int leastHarvest() {
-            int least = Integer.MAX_VALUE;
-            for (int i = Math.max(start, 0); i < end && i < MOST_EVER; i++) {
+            int from = Math.max(start, 0);
+            int least = from < MOST_EVER ? harvests[from] : 0;
+            for (int i = from; i < end && i < MOST_EVER; i++) {
                 least = Math.min(least, harvests[i]);
             }
             return least;
