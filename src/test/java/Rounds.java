@@ -124,6 +124,19 @@ public final class Rounds {
         check.due("9, 20, 5", x.ever(0, 2), 5);
     }
 
+    static void promise17TheRoundIsBeingGoneAlready(Check check) {
+        VillageRounds x = Make.hill("give 20 s=0;give 5 s=1;give 9 s=2");
+        x.plot(0, 0);
+        x.plot(1, 0);
+        x.plot(2, 0);
+        x.rule(1, 3);
+        x.go(0, 30);
+        for (int turn = 0; turn < 3; turn++) {
+            ever(check, "from turn " + turn + " on", x, 0, 3, 3, 5);
+            x.go(0, 1);
+        }
+    }
+
     static void promise17MouthsNeverGrow(Check check) {
         VillageRounds x = Make.ruledHill(0, 1, "give 30 c=1;walk 8;move 5;grow 99", 0, 0, 20, 20);
         x.set(1, 20);
@@ -133,6 +146,33 @@ public final class Rounds {
     static void promise17WhereTheVillageStandsMatters(Check check) {
         VillageRounds x = Make.ruledHill(0, 1, "give 5 y=30&c<3;walk 0", 20);
         ever(check, "ahead of year 33 the plot alone is as at first", x, 0, 34, 33, 0);
+    }
+
+    static void promise17UnderCropIsNotLying(Check check) {
+        VillageRounds x = Make.ruledHill(0, 1, "give 20 c=1", 0);
+        ever(check, "lies, having lain 30; under crop; lies; under crop; lies", x, 0, 4, 2, 0);
+        VillageRounds y = Make.ruledHill(0, 1, "give 20 c=1&!y=29", 0);
+        y.lies(0, 29);
+        ever(check, "lies once more ahead of that", y, 0, 5, 2, 0);
+    }
+
+    static void promise17HowLongItHadLainAheadOfTheCropMatters(Check check) {
+        VillageRounds x = Make.ruledHill(0, 1, "give 20 c<3", 0);
+        x.lies(0, 5);
+        ever(check, "under crop, having lain 5, and then 0", x, 0, 6, 3, 0);
+    }
+
+    static void promise17HowWornMatters(Check check) {
+        VillageRounds x = Make.ruledHill(0, 1, "give 30 c=1;wear c=1", 0);
+        x.lies(0, 1);
+        ever(check, "worn 9 ahead of year 17, and no more behind it", x, 0, 19, 2, 0);
+    }
+
+    static void promise17ThePlaceIsNotTheTurn(Check check) {
+        VillageRounds x = Make.ruledHill(1, 30, "give 20 c=1;walk 0", 0);
+        x.lies(0, 27);
+        x.set(0, 1);
+        ever(check, "at 1 in turn 0, at 0 in turn 29, the plot having lain 27", x, 0, 32, 30, 0);
     }
 
     static void promise18YearsTooFew(Check check) {
